@@ -3,9 +3,12 @@ public final class SmallFloats {
     public static final int BAD = -1, STATE = -2, FULL = -3, INVALID = -4, NONE = -9;
     public static final long NO = Long.MIN_VALUE;
 
-    private static final int MOST_FORMATS = 10, MOST_ROWS = 4, MOST_CODES = 16, MOST_MAGNITUDES = 512;
+    private static final int MOST_FORMATS = 10, MOST_ROWS = 4, MOST_CODES = 16;
     private static final int MOST_TABLES = 100, MOST_TABLE_BITS = 6;
     private static final long MOST_P = 1L << 40, MOST_Q = 1L << 20;
+
+    // Half of the 512 codes without a sign that a format can have: where a search by halves begins.
+    private static final int FIRST_STEP = 256;
 
     private static final int TOP_ENDLESS = 0, TOP_ONE = 1, TOP_PLAIN = 2;
     private static final int EVEN = 0, AWAY = 1, IN = 2, DOWN = 3, UP = 4, ODD = 5;
@@ -562,7 +565,7 @@ public final class SmallFloats {
                 return 0;
             }
             int count = 1;
-            for (int step = MOST_MAGNITUDES / 2; step > 0; step >>= 1) {
+            for (int step = FIRST_STEP; step > 0; step >>= 1) {
                 if (count + step <= great + 1 && unitsOfMagnitude(count + step - 1) <= limit) {
                     count += step;
                 }
@@ -698,7 +701,7 @@ public final class SmallFloats {
         /** The greatest magnitude whose NUMBER is not above num / den units. */
         private static int greatestUpTo(Format f, long num, long den) {
             int low = 0;
-            for (int step = MOST_MAGNITUDES / 2; step > 0; step >>= 1) {
+            for (int step = FIRST_STEP; step > 0; step >>= 1) {
                 if (low + step <= f.great && f.unitsOfMagnitude(low + step) * den <= num) {
                     low += step;
                 }
@@ -846,8 +849,8 @@ public final class SmallFloats {
             if (size == ENDLESS_SIZE) {
                 return a;
             }
-            // Rounding compares twice the root with whole units alone, so that of a root that lies
-            // between two halves of a unit it is all the same where it lies.
+            // Rounding compares the root with whole and half units alone: one that lies between two
+            // of these may be taken for the quarter between them.
             long square = 4 * (size << f.scale());
             long twice = wholeRoot(square);
             long rest = twice * twice == square ? 0 : 1;

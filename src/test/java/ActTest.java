@@ -8,6 +8,7 @@ public final class ActTest {
 
     public static void main(String[] args) {
         numbers();
+        roots();
         zeros();
         endless();
         invalid();
@@ -80,6 +81,20 @@ public final class ActTest {
         check.counts(x, "after acts above GREAT", 60, 18, 0);
         byModes(0, PRODUCT, 1, 1 + MINUS, 32, 32, 32, 33, 32, 33);
         check.counts(x, "after acts below the least NUMBER", 66, 18, 0);
+    }
+
+    /** In this format the root of code m lies at twice the root of m, in codes: 2 times 3.46 for 12. */
+    private static void roots() {
+        x = new SmallFloats();
+        x.format(1, 1, 3, 0, true, 2);
+        always(0, ROOT, 4, 0, 4);
+        always(0, ROOT, 9, 0, 6);
+        check.counts(x, "after exact roots", 0, 0, 0);
+        byModes(0, ROOT, 11, 0, 7, 7, 6, 6, 7, 7);
+        byModes(0, ROOT, 12, 0, 7, 7, 6, 6, 7, 7);
+        byModes(0, ROOT, 13, 0, 7, 7, 7, 7, 8, 7);
+        byModes(0, ROOT, 14, 0, 7, 7, 7, 7, 8, 7);
+        check.counts(x, "after inexact roots", 24, 0, 0);
     }
 
     private static void zeros() {

@@ -37,6 +37,7 @@ public final class FormatTest {
         check.due("other bias", 4, x.format(1, 2, 1, 2, true, 0));
         check.due("other subnormals", 5, x.format(1, 2, 1, 1, false, 0));
         check.due("other top", 6, x.format(1, 2, 1, 1, true, 1));
+        check.due("alike the first", 0, x.format(1, 2, 1, 1, true, 0));
         check.due("alike the fourth", 3, x.format(1, 2, 2, 1, true, 0));
         check.due("count(3)", 7, x.count(3));
         for (int bias = 3; bias <= 5; bias++) {

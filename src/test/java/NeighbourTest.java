@@ -77,6 +77,10 @@ public final class NeighbourTest {
         check.due("far above", 0, x.numbers(0, Long.MAX_VALUE, Long.MAX_VALUE));
         check.due("far below", 0, x.numbers(0, Long.MIN_VALUE, Long.MIN_VALUE));
         check.due("far turned", 0, x.numbers(0, Long.MAX_VALUE, Long.MIN_VALUE));
+        SmallFloats largest = new SmallFloats();
+        largest.format(1, 4, 5, 0, true, 2);
+        check.due("all of the largest format", 1024, largest.numbers(0, Long.MIN_VALUE, Long.MAX_VALUE));
+        check.due("all but the GREAT ones", 1022, largest.numbers(0, 1 - (63 << 15), (63 << 15) - 1));
         check.due("told()", 0, x.told());
         check.refused(x, "numbers of format 3", SmallFloats.BAD, x.numbers(3, 0, 0));
         check.refused(x, "numbers of format -1", SmallFloats.BAD, x.numbers(-1, 0, 0));

@@ -107,9 +107,13 @@ public final class RowTest {
         holds(1, 2, 2, 10, 8, 7, 7, 7);
         check.counts(x, "after quantise", 3, 1, 0);
         holds(0, 12, 13, 45, 32, 27, 28, 29);
+        check.due("quantise to the last row", 1, x.quantise(3, 1, 1, 0));
+        holds(3, 2, 2, 10, 8, 7, 7, 7);
         check.due("quantise by AWAY", 1, x.quantise(1, 0, 1, 1));
         holds(1, 2, 3, 11, 8, 7, 7, 7);
         check.counts(x, "after quantise by AWAY", 6, 2, 0);
+        check.due("quantise to the first row", 1, x.quantise(0, 3, 1, 0));
+        holds(0, 2, 2, 10, 8, 7, 7, 7);
         fill(2, 0);
         check.due("quantise of an empty row", 1, x.quantise(1, 2, 2, 0));
         holds(1);
@@ -181,5 +185,17 @@ public final class RowTest {
         fill(1, 3, 479, 479, 480, 1);
         worst(0, 1, 1, 3, 1);
         worst(1, 0, 1, 3, 1);
+        // 5 and 6 units are one unit apart, 16 codes are looked at, the first one and the last one, too.
+        x.format(1, 2, 2, 3, false, 1);
+        x.row(0, 5, 16);
+        x.row(1, 5, 16);
+        x.put(0, 15, 1);
+        x.put(1, 15, 2);
+        worst(0, 1, 15, 1, 0);
+        x.put(0, 0, 3);
+        x.put(1, 0, 2);
+        worst(0, 1, 0, 2, 0);
+        x.put(1, 0, 15);
+        worst(0, 1, 15, 1, 1);
     }
 }
