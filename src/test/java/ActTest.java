@@ -95,6 +95,9 @@ public final class ActTest {
         byModes(0, ROOT, 13, 0, 7, 7, 7, 7, 8, 7);
         byModes(0, ROOT, 14, 0, 7, 7, 7, 7, 8, 7);
         check.counts(x, "after inexact roots", 24, 0, 0);
+        // The root of 8 units is 5.66 units, between 5 and 6.
+        x.format(1, 2, 2, 0, false, 0);
+        byModes(1, ROOT, 4, 0, 2, 2, 1, 1, 2, 1);
     }
 
     private static void zeros() {

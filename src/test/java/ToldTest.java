@@ -7,6 +7,7 @@ public final class ToldTest {
         countOfRefusedCalls();
         countOfOthers();
         told();
+        toldAfterEachCall();
         check.end();
     }
 
@@ -70,6 +71,41 @@ public final class ToldTest {
         check.counts(x, "after table and others", 0, 0, 0);
         x.code(0, 1, 1, 0);
         check.counts(x, "what lookup met is not counted later", 0, 0, 0);
+    }
+
+    private static void cleared(SmallFloats x, String call, long answer) {
+        check.due("told() after " + call + " that answered " + answer, 0, x.told());
+        check.refused(x, "row 9", SmallFloats.BAD, x.at(9, 9));
+    }
+
+    /** What an earlier call was refused by is forgotten by each call that is not refused. */
+    private static void toldAfterEachCall() {
+        SmallFloats x = new SmallFloats();
+        check.refused(x, "row 9", SmallFloats.BAD, x.at(9, 9));
+        cleared(x, "format", x.format(1, 2, 1, 1, true, 0));
+        cleared(x, "format of one that is there", x.format(1, 2, 1, 1, true, 0));
+        cleared(x, "about", x.about(0, 0));
+        cleared(x, "kind", x.kind(0, 0, 0));
+        cleared(x, "kind 1", x.kind(0, 8, 1));
+        cleared(x, "units", x.units(0, 1));
+        cleared(x, "units of no NUMBER", x.units(0, 7));
+        cleared(x, "code", x.code(0, 1, 3, 0));
+        cleared(x, "cross", x.cross(0, 1, 0, 0));
+        cleared(x, "act", x.act(0, 3, 0, 0, 0));
+        cleared(x, "fused", x.fused(0, 1, 1, 1, 0));
+        cleared(x, "next", x.next(0, 5, true));
+        cleared(x, "order", x.order(0, 7, 7));
+        cleared(x, "numbers", x.numbers(0, 1, 0));
+        cleared(x, "row", x.row(0, 0, 1));
+        cleared(x, "put", x.put(0, 0, 1));
+        cleared(x, "at", x.at(0, 0));
+        cleared(x, "packed", x.packed(0, -1));
+        cleared(x, "quantise", x.quantise(1, 0, 0, 0));
+        cleared(x, "worst", x.worst(0, 1, 0));
+        cleared(x, "sum", x.sum(0, 0, false));
+        cleared(x, "dot", x.dot(0, 1, 0, true));
+        cleared(x, "table", x.table(0, 0, 0));
+        cleared(x, "lookup", x.lookup(0, 0));
     }
 
     private static void told() {
