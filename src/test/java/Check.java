@@ -1,6 +1,8 @@
 /** Compares answers with what is due and ends a test with exit code 1 if one differed. */
 final class Check {
     private final String test;
+    private String sentence = "";
+    private int lookedAhead = 0;
     private int looked = 0;
     private int wrong = 0;
 
@@ -8,14 +10,47 @@ final class Check {
         this.test = test;
     }
 
+    /** What is looked at from here on holds this sentence of the document, which stands at this place. */
+    void sentence(String place, String words) {
+        endSentence();
+        sentence = place + ", \"" + words + "\"";
+        lookedAhead = looked;
+    }
+
+    private void endSentence() {
+        if (!sentence.isEmpty() && looked == lookedAhead) {
+            wrong++;
+            System.out.println(test + ": nothing was looked at for " + sentence);
+        }
+    }
+
     void due(String call, long want, long got) {
         looked++;
         if (want != got) {
             wrong++;
-            if (wrong <= 20) {
-                System.out.println(test + ": " + call + " answered " + got + ", due is " + want);
-            }
+            tell(call, "" + got, "" + want);
         }
+    }
+
+    void same(String what, String want, String got) {
+        looked++;
+        if (!want.equals(got)) {
+            wrong++;
+            tell(what, got, want);
+        }
+    }
+
+    private void tell(String call, String got, String want) {
+        if (wrong <= 20) {
+            String where = sentence.isEmpty() ? "" : " (" + sentence + ")";
+            System.out.println(test + ": " + call + " answered " + got + ", due is " + want + where);
+        }
+    }
+
+    /** A call that is not refused. */
+    void fine(SmallFloats x, String call, long want, long got) {
+        due(call, want, got);
+        due("told() after " + call, 0, x.told());
     }
 
     /** A call that must be refused by this reason. */
@@ -31,6 +66,7 @@ final class Check {
     }
 
     void end() {
+        endSentence();
         if (looked == 0) {
             System.out.println(test + ": nothing was looked at");
         }
